@@ -9,6 +9,7 @@ public final class BooksTest {
         promise22NoWishes();
         promise23Save();
         promise23SaveByLaw();
+        promise23And24LaterTrees();
         promise24Alike();
         promise25Drawn();
         promise25Clouds();
@@ -48,6 +49,7 @@ public final class BooksTest {
         C.is("the first is not", judged(x, 5, 0, 0, 1), 0);
         C.is("the third is not", judged(x, 5, 1, 0, 0, 7, 1, 0, 1), 2);
         C.is("lacking", judged(x, 5, 1, 6), 1);
+        C.is("lacking, though 0 would be so", judged(x, 5, 1, 0), 1);
         C.is("lacking at once", judged(x, 5), 0);
         C.is("no month 12", judged(x, 5, 1, 12, 0), 1);
         C.is("no month -1", judged(x, -1, 0), 0);
@@ -101,6 +103,9 @@ public final class BooksTest {
         wishes(x, 1, 6, 6, 0, 1, 5, 0);
         wishes(x, 1, 1, 1, 5, 1, 0, 0, 4, 0);
         wishes(x, 2, 1, 1, 5, 1, 4, 0, 5, 1);
+        wishes(x, 2, 3, 3, 4, 1, 5, 1);
+        wishes(x, 4, 1, 1, 5, 1, 6, 1, 5, 1);
+        wishes(x, 2, 1, 1, 6, 1, 4, 0, 7, 0);
         C.is("nobody's wish changed", x.of(0, 5), 1);
         x.mend(2, 6, 3);
         wishes(x, 4, 4, 4, 0, 1);
@@ -115,6 +120,7 @@ public final class BooksTest {
         wishes(x, 0, -2, 0, 5, 1, 5, 0);
         wishes(x, 0, -2, 0, 5, 1, 6, 0);
         wishes(x, 0, -2, 0, 5);
+        wishes(x, 0, -2, 0, 5, 1, 0);
         wishes(x, 0, -2, 0, 5, 1, 12, 0);
         wishes(x, 0, -2, 0, -1, 0);
         wishes(x, 0, -2, 0, 0, 2);
@@ -152,6 +158,26 @@ public final class BooksTest {
         C.is("below", x.save(-1, 0), -1);
         C.is("what below", x.save(0, -1), -1);
         C.is("what above", x.save(0, 2), -1);
+    }
+
+    private static void promise23And24LaterTrees() {
+        ShadeVotes x = new ShadeVotes();
+        for (int k = 0; k < 5; k++) x.tree(0, 1);
+        x.tree(200, 4);
+        for (int k = 0; k < 9; k++) x.person(255, 0);
+        x.person(184, 32);
+        C.is("in the sun", x.save(509, 0), 0);
+        C.is("always", x.save(509, 1), 12);
+        C.is("one of the others", x.save(508, 0), 10 * 16 + 7);
+        C.is("one who is as heavy", x.save(508, 1), 12);
+        C.is("another tree", x.save(409, 0), 0);
+        C.is("no tree 6", x.save(600, 0), -1);
+        C.is("no one 10", x.save(510, 0), -1);
+        C.is("bare ones", x.alike(34, 0), 1);
+        C.is("the last and a bare one", x.alike(54, 0), 0);
+        C.is("a bare one and the last", x.alike(45, 0), 0);
+        C.is("the last and itself", x.alike(55, 0), 1);
+        C.is("no tree 6", x.alike(56, 0), -1);
     }
 
     private static void promise23SaveByLaw() {

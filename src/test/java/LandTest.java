@@ -252,6 +252,10 @@ public final class LandTest {
         fault("?w", 0);
         fault("w?1?2", 3);
         fault("w?1;w?2", -1);
+        fault("w|n?1|2", -1);
+        fault("w?((((((1))))))", -1);
+        fault("w?(((((((1)))))))", 8);
+        fault("((((((w))))))?1", -1);
         fault("w?1;2", -1);
         fault(";", 0);
         fault("w;", 2);
@@ -313,6 +317,8 @@ public final class LandTest {
     private static void promise8LawValues() {
         counts("7", 7);
         counts("0007", 7);
+        counts("100-93", 7);
+        counts("1021-1013", 8);
         counts("10", 9);
         counts("9999", 9);
         counts("-1", 0);
@@ -356,11 +362,14 @@ public final class LandTest {
         counts("1?7;6", 7);
         counts("-1?7;6", 7);
         counts("0?7", 0);
+        counts("0|1?0|3;5", 1);
         counts("0?7;0?8", 0);
         counts("0?7;5;6", 5);
         counts("0?7;1?0;6", 0);
         counts("0?7;0?8;0?9;4", 4);
         counts("2<1?7;2>1?3+1;9", 4);
+        // As many signs as a tape can tell, and the last line counts.
+        counts("0?1;".repeat(29) + "-w+h", 2);
     }
 
     private static void promise8LawNames() {

@@ -30,7 +30,7 @@ import javax.tools.ToolProvider;
 public final class LanguageTest {
     private static final Check C = new Check("LanguageTest");
     private static final Set<String> FORBIDDEN = Set.of("THROW", "TRY", "CATCH", "LAMBDA_EXPRESSION", "MEMBER_REFERENCE",
-            "ASSERT", "SYNCHRONIZED", "IMPORT", "PACKAGE", "ANNOTATION", "TYPE_CAST_OF_OBJECT", "SWITCH_EXPRESSION");
+            "ASSERT", "SYNCHRONIZED", "IMPORT", "PACKAGE", "ANNOTATION", "SWITCH_EXPRESSION");
     private static final Set<String> LIBRARY = Set.of("java.lang.Integer.bitCount", "java.lang.Math.min",
             "java.lang.Math.max", "java.lang.Math.abs", "java.lang.System.arraycopy", "java.lang.Object.<init>");
     private static final String[] FACE = {

@@ -12,6 +12,7 @@ public final class ThoughtTest {
         promise13Left();
         promise14Turn();
         promise14TurnByLaw();
+        promise14TurnByAll();
         promise15Chair();
         promise16Power();
         promise17Lop();
@@ -19,6 +20,7 @@ public final class ThoughtTest {
         promise18FourMoves();
         promise19Deepest();
         promise20Shadiest();
+        laterTrees();
         felledTrees();
         wrongTreeMonths();
         C.end();
@@ -218,6 +220,18 @@ public final class ThoughtTest {
         C.is("2 comes and alone counts", x.turn(4, 1), 4);
     }
 
+    private static void promise14TurnByAll() {
+        ShadeVotes x = new ShadeVotes();
+        x.tree(200, 4);
+        x.person(184, 0);
+        x.person(0, 1);
+        C.is("both change", x.turn(0, 0), 2);
+        C.is("0 goes and 1 comes", x.turn(0, 1), 3);
+        x.mend(0, 5, 1);
+        x.mend(1, 4, 184);
+        C.is("both go", x.turn(0, 1), 3);
+    }
+
     private static void promise15Chair() {
         ShadeVotes x = oak();
         C.is("1 or 2 away: it falls", x.chair(0), 6);
@@ -405,6 +419,40 @@ public final class ThoughtTest {
         C.is("month above", x.shadiest(12, 0), -1);
         C.is("what below", x.shadiest(0, -1), -1);
         C.is("what above", x.shadiest(0, 2), -1);
+    }
+
+    /** Five bare trees ahead of it: all that is asked of the last one is asked of it, and of its own month. */
+    private static void laterTrees() {
+        for (int t = 1; t <= 5; t++) {
+            ShadeVotes x = new ShadeVotes();
+            for (int k = 0; k < t; k++) x.tree(0, 1);
+            x.tree(200, 4);
+            x.person(184, 1 << t);
+            x.person(151, 0);
+            x.person(0, 1 << t);
+            for (int m = 0; m < 12; m++) lookAtOak(x, t, m, 100 * t + m);
+            C.is("first", x.first(100 * t + 11), 5);
+            C.is("first", x.first(100 * t + 6), 6);
+            C.is("deepest", x.deepest(t, 1), 2);
+        }
+    }
+
+    private static void lookAtOak(ShadeVotes x, int t, int m, int tm) {
+        boolean alone = m == 5 || m == 6;
+        int[] rows = {12, 10, 8, 5, 4, 2, 2, 4, 5, 8, 10, 12};
+        C.is("shade", x.shade(tm), alone ? 1 : 3);
+        C.is("yes", x.votes(tm, 0), 1);
+        C.is("all", x.votes(tm, 1), alone ? 1 : 2);
+        C.is("whether", x.votes(tm, 2), alone ? 1 : 0);
+        C.is("cells", x.votes(tm, 3), 3 * rows[m]);
+        C.is("falls", x.falls(m), alone ? 1 << t : 0);
+        C.is("turn", x.turn(tm, 0), 1);
+        C.is("turn", x.turn(tm, 1), alone ? 1 : 2);
+        C.is("chair", x.chair(tm), alone ? 1 : 2);
+        fraction(x, tm, 0, 1, alone ? 1 : 2);
+        C.is("lop", x.lop(tm, 0), alone ? 3 : 0);
+        C.is("grow", x.lop(tm, 1), alone ? 0 : -2);
+        byTurns(x, tm, 1, 1, alone ? 2 : 1);
     }
 
     private static void felledTrees() {
