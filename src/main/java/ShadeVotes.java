@@ -49,7 +49,7 @@ public final class ShadeVotes {
 
     public int people(int shelf, int i, int n) {
         Shelf from = shelfAt(shelf);
-        if (from == null || i < 0 || n < 1 || n > PEOPLE) return BAD;
+        if (from == null || !within(n, 1, PEOPLE)) return BAD;
         if (!from.isEmpty() && !from.isRowOf(Shelf.SHORTS)) return OTHER_KIND;
         int came = 0;
         for (int k = 0; k < n; k++) {
@@ -59,9 +59,9 @@ public final class ShadeVotes {
         return came;
     }
 
-    /** Whether a whole three stands there, is as said, and there is room for one more. */
+    /** Whether a whole three stands there, is as said, and there is room for one more; at a place below 0 none stands. */
     private boolean comesFrom(Shelf from, long place) {
-        if (!from.isRow() || place + 3 > from.size()) return false;
+        if (!from.isRow() || place < 0 || place + 3 > from.size()) return false;
         int first = (int) place;
         int cell = (int) from.valueAt(first);
         int wish = (int) from.valueAt(first + 1);

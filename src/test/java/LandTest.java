@@ -91,7 +91,6 @@ public final class LandTest {
         C.is("no shelf above", x.people(6, 0, 1), -1);
         C.is("n below", x.people(2, 0, 0), -1);
         C.is("n above", x.people(2, 0, 11), -1);
-        C.is("place below", x.people(2, -1, 1), -1);
         C.is("a missing row", x.people(0, 0, 3), 0);
         C.is("two from place 1", x.people(2, 1, 2), 2);
         C.is("cell", x.of(0, 4), 10);
@@ -122,6 +121,7 @@ public final class LandTest {
         C.is("behind the end", x.people(0, 60, 1), 0);
         C.is("far behind the end", x.people(0, Integer.MAX_VALUE, 10), 0);
         C.is("two last ones", x.people(0, 6, 1), 0);
+        promise4PlacesBelow(x);
         fill(x, 1, 1, 5, 5, 1, 256, 5, 1, 5, 5, 1);
         C.is("no such cell", x.people(1, 0, 3), 1);
         fill(x, 1, 1, -1, 5, 1);
@@ -138,6 +138,25 @@ public final class LandTest {
         C.is("seven more have room", x.people(2, 0, 10), 7);
         C.is("none has room", x.people(2, 0, 1), 0);
         C.is("ten", x.count(1), 10);
+    }
+
+    /** No place is BAD: one below 0 is not there, and nobody was ahead of it. */
+    private static void promise4PlacesBelow(ShadeVotes x) {
+        int came = x.count(1);
+        for (int place : new int[] {-1, -2, -3, -30, Integer.MIN_VALUE + 1, Integer.MIN_VALUE}) {
+            C.is("of a row from " + place, x.people(0, place, 10), 0);
+            C.is("of a missing row from " + place, x.people(5, place, 1), 0);
+            C.is("BAD ahead of the place " + place, x.people(0, place, 0), -1);
+            C.is("no shelf, from " + place, x.people(6, place, 1), -1);
+            for (int sort = 0; sort <= 4; sort++) {
+                x.row(3, sort, 6);
+                C.is("of sort " + sort + " from " + place, x.people(3, place, 1), sort == 1 ? 0 : -12);
+            }
+            x.body(0);
+            x.keep(3, 0);
+            C.is("of a voter from " + place, x.people(3, place, 1), -12);
+        }
+        C.is("nobody came", x.count(1), came);
     }
 
     private static void promise5Mend() {
