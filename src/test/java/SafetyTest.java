@@ -26,7 +26,7 @@ public final class SafetyTest {
         if (draws.nextBoolean()) settle();
         for (int k = 0; k < 300; k++) {
             int call = draws.nextInt(42);
-            String before = draws.nextInt(8) == 0 ? state() : null;
+            String before = draws.nextInt(8) == 0 ? Seen.of(x) : null;
             long answer;
             try {
                 answer = call(call);
@@ -37,7 +37,7 @@ public final class SafetyTest {
             C.so("answered", true);
             boolean refused = answer == -1 || answer == -3 || answer == -5 || answer <= -11 && answer >= -14
                     || answer == Long.MIN_VALUE;
-            if (before != null && refused && call != 34) C.so("call " + call + " refused: as it was", state().equals(before));
+            if (before != null && refused && call != 34) C.so("call " + call + " refused: as it was", Seen.of(x).equals(before));
         }
     }
 
@@ -45,23 +45,6 @@ public final class SafetyTest {
         for (int k = 0; k < 4; k++) x.tree(draws.nextInt(256), 1 + draws.nextInt(9));
         for (int k = 0; k < 8; k++) x.person(draws.nextInt(256), draws.nextInt(64));
         for (int k = 0; k < 4; k++) x.body(draws.nextInt(8));
-    }
-
-    /** All that can be seen of an object without any change in it. */
-    private String state() {
-        StringBuilder seen = new StringBuilder();
-        for (int what = 0; what < 8; what++) {
-            for (int number = 0; number < 12; number++) seen.append(x.of(number, what)).append(' ');
-        }
-        for (int what = 0; what < 5; what++) seen.append(x.led(what)).append(' ');
-        for (int what = 0; what < 6; what++) seen.append(x.count(what)).append(' ');
-        for (int shelf = 0; shelf < 6; shelf++) {
-            seen.append(x.taken(shelf, 0)).append(' ');
-            for (int i = 0; i < 60; i++) seen.append(x.element(shelf, i)).append(' ');
-        }
-        for (int i = 0; i < 24; i++) seen.append(x.trace(i)).append(' ');
-        for (int m = 0; m < 13; m++) seen.append(x.falls(m)).append(' ');
-        return seen.toString();
     }
 
     private int any(int below) {
