@@ -14,6 +14,7 @@ public final class ActsEdgesTest {
         noSuchVoterOrAct();
         traceIsOfTheLatest();
         tracePlaces();
+        traceKeepsAllThatRan();
         shelves0To5();
         nothingAtFirst();
         keepNothingOrAVoter();
@@ -138,6 +139,23 @@ public final class ActsEdgesTest {
         for (int i : new int[] {-1, 2, 23, 24, LEAST, MOST}) C.is("place " + i, x.trace(i), -1);
         C.is("the first", x.trace(0), 10);
         C.is("the last", x.trace(1), 1);
+    }
+
+    /** "the first 24 are kept": the longest act runs 14 bodies, so none is ever lost. */
+    private static void traceKeepsAllThatRan() {
+        int[][] ran = {
+            {1, 2, 1, 4}, {2, 3, 1, 5}, {1, 3, 1, 5}, {1, 4, 2, 7}, {2, 3, 4, 8}, {1, 4, 2, 8}, {2, 3, 1, 5}, {2, 8, 4, 14}
+        };
+        ShadeVotes x = new ShadeVotes();
+        for (int kind = 0; kind < 8; kind++) x.body(kind);
+        for (int kind = 0; kind < 8; kind++) {
+            for (int act = 0; act < 4; act++) {
+                x.act(kind, act, MOST);
+                C.is("so many ran", x.count(5), ran[kind][act]);
+                C.so("the last of them is kept", x.trace(ran[kind][act] - 1) > 0);
+                C.is("none behind it", x.trace(ran[kind][act]), -1);
+            }
+        }
     }
 
     /** "SHELVES 0 .. 5". */

@@ -387,6 +387,11 @@ public final class BooksEdgesTest {
         seat(x, 500, 10 * 16 + 7, 12);
         seat(x, 501, 0, 12);
         seat(x, 9, 0, 12);
+        // The last tree alone is where nobody sits.
+        x.mend(5, 0, 3);
+        seat(x, 509, 0, 12);
+        seat(x, 500, 0, 12);
+        seat(x, 409, 10 * 16 + 7, 12);
         C.is("nobody numbered 10", x.save(510, 0), -1);
         C.is("no tree 6", x.save(600, 0), -1);
         C.is("no tree 6", x.save(609, 1), -1);

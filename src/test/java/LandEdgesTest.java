@@ -28,6 +28,7 @@ public final class LandEdgesTest {
         lawIntsWrap();
         lawDividesByZero();
         lawDividesTowardZero();
+        lawSignsGive1Or0();
         lawFirstLineCounts();
         lawNoLineCounts();
         lawNumberHasFourDigits();
@@ -427,6 +428,28 @@ public final class LandEdgesTest {
         C.is("-7 % -3", worth("-7%-3+5"), 4);
     }
 
+    /** "| & < = > ! give 1, 0". */
+    private static void lawSignsGive1Or0() {
+        int[][] pairs = {{0, 0}, {0, 1}, {1, 0}, {1, 1}, {0, 7}, {7, 0}, {7, 7}, {7, 8}, {8, 7}};
+        for (int[] p : pairs) {
+            for (int below = 0; below <= 1; below++) {
+                int a = below == 0 ? p[0] : -p[0];
+                int b = below == 0 ? p[1] : -p[1];
+                C.is(a + " or " + b, worth(a + "|" + b), a != 0 || b != 0 ? 1 : 0);
+                C.is(a + " and " + b, worth(a + "&" + b), a != 0 && b != 0 ? 1 : 0);
+                C.is(a + " below " + b, worth(a + "<" + b), a < b ? 1 : 0);
+                C.is(a + " as " + b, worth(a + "=" + b), a == b ? 1 : 0);
+                C.is(a + " above " + b, worth(a + ">" + b), a > b ? 1 : 0);
+            }
+        }
+        C.is("not 0", worth("!0"), 1);
+        C.is("not 1", worth("!1"), 0);
+        C.is("not 7", worth("!7"), 0);
+        C.is("not -7", worth("!-7"), 0);
+        C.is("three", worth("2|0|0"), 1);
+        C.is("three", worth("2&3&0"), 0);
+    }
+
     /** "The first LINE without a first E, or whose first E is not 0, counts". */
     private static void lawFirstLineCounts() {
         C.is("without a first", worth("4;5"), 4);
@@ -590,6 +613,7 @@ public final class LandEdgesTest {
         C.is("119 bytes", worth("0+".repeat(59) + "7"), 7);
         C.is("120 bytes: the last one counts", worth("0+".repeat(59) + "07"), 7);
         C.is("and the first", worth("5" + "+0".repeat(59)), 5);
+        C.is("120 bytes, each a sign of its own", worth("-0" + "+0".repeat(58) + "+7"), 7);
         ShadeVotes x = new ShadeVotes();
         for (int k = 0; k < 60; k++) {
             x.feed('1');

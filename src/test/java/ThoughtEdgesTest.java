@@ -15,6 +15,7 @@ public final class ThoughtEdgesTest {
         felledHasNoShade();
         moreThanHalf();
         somebodyCounts();
+        eachTreeAndMonth();
         treesAndMonthsAreThere();
         whatIsThere();
         fallsIn0To11And12();
@@ -205,6 +206,42 @@ public final class ThoughtEdgesTest {
         C.is("it does not fall", x.votes(5, 2), 0);
         law(x, "1");
         C.is("counts by the law", x.votes(5, 2), 1);
+    }
+
+    /** "(tm: 100 times the TREE, and the MONTH)": by the law each tree falls in each other month, by its one below it. */
+    private static void eachTreeAndMonth() {
+        ShadeVotes x = new ShadeVotes();
+        for (int t = 0; t < 6; t++) {
+            x.tree(15 * 16 + 2 * t, t + 1);
+            x.mend(t, 2, 0);
+            x.person(14 * 16 + 2 * t, 63);
+        }
+        for (int m = 0; m < 12; m++) x.mend(m, 3, 9);
+        law(x, "(t+m)%2");
+        for (int t = 0; t < 6; t++) {
+            for (int m = 0; m < 12; m++) lookAt(x, t, m);
+        }
+    }
+
+    private static void lookAt(ShadeVotes x, int t, int m) {
+        int tm = 100 * t + m;
+        boolean falls = (t + m) % 2 == 1;
+        C.is("shade", x.shade(tm), 1 << t);
+        C.is("yes", x.votes(tm, 0), falls ? 1 : 0);
+        C.is("all", x.votes(tm, 1), falls ? 1 : 0);
+        C.is("whether", x.votes(tm, 2), falls ? 1 : 0);
+        C.is("cells", x.votes(tm, 3), Math.min(15, 3 * (t + 1)));
+        C.is("first", x.first(tm), falls ? m : (m + 1) % 12);
+        C.is("how many turn it", x.turn(tm, 0), falls ? 1 : -2);
+        C.is("who turns it", x.turn(tm, 1), falls ? 1 << t : -2);
+        C.is("chair", x.chair(tm), falls ? 1 << t : 0);
+        for (int p = 0; p < 6; p++) fraction(x, tm, p, falls && p == t ? 1 : 0, 1);
+        C.is("lop", x.lop(tm, 0), falls ? -2 : 0);
+        C.is("grow", x.lop(tm, 1), falls ? 0 : -2);
+        C.is("by turns", x.byTurns(tm, 10), falls ? 1 : 0);
+        C.is("the move", x.byTurns(tm, 11), falls && t == 0 ? 1 : 0);
+        C.is("by two turns", x.byTurns(tm, 20), falls ? 1 : 0);
+        C.is("the move: another comes", x.byTurns(tm, 21), falls && t == 0 ? 1 : 0);
     }
 
     /** "(tm: 100 times the TREE, and the MONTH)": "BAD (-1): no such number". */
@@ -537,6 +574,9 @@ public final class ThoughtEdgesTest {
         C.is("the last tree in the first month", x.lop(500, 1), 4);
         C.is("stands as it is", x.lop(500, 0), 0);
         C.is("the second in the last month", x.lop(111, 1), 4);
+        x.mend(5, 1, 5);
+        C.is("the last is higher than the one ahead of it", x.lop(500, 1), 1);
+        C.is("that one is not", x.lop(400, 1), 4);
         x.mend(1, 1, 8);
         C.is("the second is less high by 3", x.lop(100, 0), 3);
         C.is("and in the last month", x.lop(111, 0), 3);
@@ -623,6 +663,11 @@ public final class ThoughtEdgesTest {
             C.is("ten", x.deepest(0, 1), 10);
             x.mend(11, 3, 9);
             C.is("the first of two", x.deepest(0, 0), month);
+            ShadeVotes y = oak();
+            y.person(11 * 16 + 8, 0);
+            for (int m = 0; m < 12; m++) y.mend(m, 3, m == month ? 9 : 0);
+            C.is("one in one month alone", y.deepest(0, 0), month);
+            C.is("one", y.deepest(0, 1), 1);
         }
     }
 
