@@ -425,6 +425,16 @@ public final class BooksEdgesTest {
         C.is("columns 13 to 15 both", x.alike(1, 0), 1);
         x.mend(0, 0, 16 * 5 + 14);
         C.is("columns 12 to 15 and 13 to 15", x.alike(1, 0), 0);
+        // One cell alone parts them: the first of the land, or the last that can have shade.
+        for (int cell : new int[] {0, 14 * 16 + 15}) {
+            ShadeVotes y = new ShadeVotes();
+            y.tree(cell + 16, 1);
+            y.tree(3, 1);
+            y.mend(0, 2, 0);
+            y.mend(0, 3, 3);
+            C.is("one cell and none", y.alike(1, 0), 0);
+            C.is("none and one cell", y.alike(10, 0), 0);
+        }
     }
 
     /** Two that have no cells have the same: none. */

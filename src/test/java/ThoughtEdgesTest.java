@@ -40,6 +40,7 @@ public final class ThoughtEdgesTest {
         shadiestOfLikeOnes();
         shadiestNot();
         thoughtChangesNothing();
+        thoughtIsAsItWasAsked();
         C.end();
     }
 
@@ -705,6 +706,14 @@ public final class ThoughtEdgesTest {
         x.person(11 * 16 + 8, 0);
         C.is("one in one: who", x.shadiest(0, 0), 1);
         C.is("in one", x.shadiest(0, 1), 1);
+        // Who has not come yet does not sit in cell 0.
+        ShadeVotes y = new ShadeVotes();
+        y.tree(16, 9);
+        C.is("nobody yet: who", y.shadiest(0, 0), -2);
+        C.is("nobody yet", y.shade(0), 0);
+        y.person(255, 63);
+        C.is("one, who is in none: who", y.shadiest(0, 0), -2);
+        C.is("one, who is in none", y.shade(0), 0);
     }
 
     /** "IN THOUGHT": none of these calls changes anything. */
@@ -735,5 +744,45 @@ public final class ThoughtEdgesTest {
         for (int m = 0; m < 12; m++) C.is("the sun as low", x.of(m, 3), LOW[m]);
         int falls = x.falls(0);
         C.is("felled in deed: those that fall in thought", x.noon(), falls);
+    }
+
+    /** "IN THOUGHT": what one call worked out does not show in the next, whatever was asked between. */
+    private static void thoughtIsAsItWasAsked() {
+        for (int n = 10; n <= 40; n += 10) {
+            ShadeVotes x = oak();
+            x.person(11 * 16 + 8, 1);
+            x.row(0, 0, 2);
+            x.put(0, 0, 5);
+            x.put(0, 1, 1);
+            x.byTurns(5, n);
+            fraction(x, 5, 0, 1, 1);
+            x.byTurns(5, n);
+            C.is("by one set", x.wishes(0, 0, 0), 1);
+            x.byTurns(5, n);
+            C.is("he is certain", x.wishes(0, 0, 2), 1);
+        }
+        ShadeVotes y = oak();
+        for (int p = 0; p < 6; p++) y.person(p % 2 == 0 ? 11 * 16 + 8 : 0, p == 3 ? 0 : 1);
+        law(y, "n%3*p+1");
+        String asked = asked(y, 0);
+        for (int from = 1; from < 7; from++) C.so("as it was, from " + from, asked.equals(asked(y, from)));
+    }
+
+    /** Seven answers, asked from one of them on and round, told in their own order. */
+    private static String asked(ShadeVotes x, int from) {
+        long[] answers = new long[7];
+        for (int k = 0; k < 7; k++) {
+            int call = (from + 5 * k) % 7;
+            switch (call) {
+                case 0: answers[call] = x.turn(5, 1); break;
+                case 1: answers[call] = x.chair(5); break;
+                case 2: answers[call] = x.power(5, 2, 0); break;
+                case 3: answers[call] = x.byTurns(5, 31); break;
+                case 4: answers[call] = x.save(3, 0); break;
+                case 5: answers[call] = x.votes(5, 1); break;
+                default: answers[call] = x.byTurns(5, 40); break;
+            }
+        }
+        return java.util.Arrays.toString(answers);
     }
 }
