@@ -1,3 +1,6 @@
+import java.util.ArrayList;
+import java.util.List;
+
 /** Promises 34 to 43: voters and their acts, shelves and rows, counts. */
 public final class ActsTest {
     private static final Check C = new Check("ActsTest");
@@ -31,132 +34,9 @@ public final class ActsTest {
         C.is("its kind", x.taken(0, 0), 7);
     }
 
-    /** Java's own calls from above: what acts are due to answer, and what they trace. */
-    private static StringBuilder ran = new StringBuilder();
-
-    private static void run(int body) {
-        ran.append(body).append(' ');
-    }
-
-    private interface Sitting {
-        int n();
-
-        default int sits(int x) {
-            run(1);
-            return x + n();
-        }
-    }
-
-    private interface Telling {
-        int votes(int x);
-
-        int moves(int x);
-
-        default int tells(int x) {
-            run(2);
-            return votes(x) - moves(1);
-        }
-    }
-
-    private static class Voter implements Sitting, Telling {
-        private int number;
-
-        @Override
-        public int n() {
-            return number;
-        }
-
-        @Override
-        public int votes(int x) {
-            run(10);
-            return sits(x) * 2;
-        }
-
-        @Override
-        public int moves(int x) {
-            run(11);
-            return x ^ number;
-        }
-    }
-
-    private static class Aunt extends Voter {
-        @Override
-        public int sits(int x) {
-            run(20);
-            return super.sits(x) + 3;
-        }
-    }
-
-    private static class Dog extends Voter {
-        @Override
-        public int votes(int x) {
-            run(30);
-            return -super.votes(x);
-        }
-    }
-
-    private static class Asleep extends Dog {
-        @Override
-        public int moves(int x) {
-            run(40);
-            return super.moves(x) * 3;
-        }
-
-        @Override
-        public int votes(int x) {
-            run(41);
-            return super.votes(x + 1);
-        }
-    }
-
-    private static class Parasol extends Aunt {
-        @Override
-        public int moves(int x) {
-            run(50);
-            return super.moves(x) - sits(2);
-        }
-    }
-
-    private static class Cobbler extends Asleep {
-        @Override
-        public int tells(int x) {
-            run(60);
-            return super.tells(x) ^ 5;
-        }
-    }
-
-    private static class Bird extends Voter {
-        @Override
-        public int sits(int x) {
-            run(70);
-            return super.sits(x) * 2;
-        }
-    }
-
-    private static class Acorn extends Parasol {
-        @Override
-        public int votes(int x) {
-            run(80);
-            return super.votes(x) + moves(2);
-        }
-
-        @Override
-        public int tells(int x) {
-            run(81);
-            return super.tells(x) - 1;
-        }
-    }
-
-    private static Voter voter(int kind, int number) {
-        Voter[] all = {
-            new Voter(), new Aunt(), new Dog(), new Asleep(), new Parasol(), new Cobbler(), new Bird(), new Acorn()
-        };
-        all[kind].number = number;
-        return all[kind];
-    }
-
-    private static int due(Voter voter, int act, int x) {
-        ran.setLength(0);
+    /** What an act of Java's own voters of the same ways answers, and which bodies ran in it. */
+    private static int due(JavaVoters.Voter voter, int act, int x) {
+        voter.ran = new ArrayList<>();
         switch (act) {
             case 0: return voter.sits(x);
             case 1: return voter.votes(x);
@@ -165,10 +45,10 @@ public final class ActsTest {
         }
     }
 
-    private static String traced(ShadeVotes x) {
-        StringBuilder bodies = new StringBuilder();
-        for (int i = 0; x.trace(i) >= 0; i++) bodies.append(x.trace(i)).append(' ');
-        return bodies.toString();
+    private static List<Integer> traced(ShadeVotes x) {
+        List<Integer> bodies = new ArrayList<>();
+        for (int i = 0; x.trace(i) >= 0; i++) bodies.add(x.trace(i));
+        return bodies;
     }
 
     private static void promise35Acts() {
@@ -180,9 +60,10 @@ public final class ActsTest {
                 for (int act = 0; act < 4; act++) {
                     for (int v : new int[] {0, 1, 7, -3, 1000000007, Integer.MAX_VALUE, Integer.MIN_VALUE}) {
                         String call = "act " + act + " of kind " + kind + ", number " + number + ", with " + v;
-                        int want = due(voter(kind, number), act, v);
+                        JavaVoters.Voter voter = JavaVoters.of(kind, number);
+                        int want = due(voter, act, v);
                         C.is(call, x.act(number, act, v), want);
-                        if (v == 0) C.so("trace of " + call, traced(x).equals(ran.toString()));
+                        if (v == 0) C.so("trace of " + call, traced(x).equals(voter.ran));
                     }
                 }
             }
